@@ -1055,21 +1055,21 @@ public final class MetricStore {
             return true;
         }
 
-        private int readDigit(int greatest) {
-            if (now < '0' || now > greatest) {
+        private int readSeries() {
+            int number = now - '0';
+            if (!isSeries(number)) {
                 return NONE;
             }
-            int digit = now - '0';
             goTo(at + 1);
-            return digit;
+            return number;
         }
 
+        // No digit may follow a leading 0, so that reading ends behind it.
         private int readNumber() {
-            int number = readDigit('9');
-            int digit = number;
-            for (int i = 1; i < DIGITS && number > 0 && digit != NONE; i++) {
-                digit = readDigit('9');
-                number = digit == NONE ? number : number * 10 + digit;
+            int number = NONE;
+            for (int i = 0; i < DIGITS && number != 0 && now >= '0' && now <= '9'; i++) {
+                number = (i > 0 ? number * 10 : 0) + now - '0';
+                goTo(at + 1);
             }
             return number;
         }
@@ -1174,7 +1174,7 @@ public final class MetricStore {
         }
 
         private boolean readArguments(Tape tape, int function) {
-            int subject = tape.take('(') ? tape.readDigit('7') : NONE;
+            int subject = tape.take('(') ? tape.readSeries() : NONE;
             if (subject == NONE || !tape.take(',')) {
                 return false;
             }

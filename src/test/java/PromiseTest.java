@@ -116,6 +116,40 @@ public final class PromiseTest {
         due("2: no bounds", x.series(3, 7), 0);
         due("2: no buckets", x.series(3, 20), NONE);
         due("2: a counter now", x.append(3, 1, 1), 1);
+        dueNothingLeft(x);
+    }
+
+    /** What dropped samples and those of an earlier definition had is nowhere in the later ones. */
+    private static void dueNothingLeft(MetricStore x) {
+        x.parameter(1, 1);
+        Check.histogram(x, 5, "5,6");
+        for (int i = 1; i <= 10; i++) {
+            x.observe(5, 5, 9);
+            x.scrape(5, i);
+        }
+        Check.histogram(x, 5, "5,6");
+        for (int i = 0; i < 30; i++) {
+            x.scrape(5, 100 + 50 * i);
+            int at = x.series(5, 1) - 1;
+            due("2: pair " + i, x.sample(5, at, 2), i == 0 ? 0 : 3);
+            due("2: change " + i, x.sample(5, at, 3), 0);
+            due("2: covered " + i, x.sample(5, at, 4), 0);
+            due("2: count " + i, x.sample(5, at, 10), 0);
+            due("2: bucket " + i, x.bucket(5, 99, 9999, 0), 0);
+        }
+        x.define(5, 0);
+        for (int i = 1; i <= 20; i++) {
+            x.append(5, i, 20 - i);
+        }
+        for (int i = 0; i < 8; i++) {
+            x.define(5, 1);
+            for (int j = 0; j <= i; j++) {
+                x.append(5, j + 1, j);
+            }
+            due("2: first pair " + i, x.sample(5, 0, 2), 0);
+            due("2: first change " + i, x.sample(5, 0, 3), 0);
+            due("2: first covered " + i, x.sample(5, 0, 4), 0);
+        }
     }
 
     private static void promise3Feed() {
@@ -410,6 +444,9 @@ public final class PromiseTest {
         for (int i = 0; i < 41; i++) {
             x.append(1, 100 + 60 * i, i);
         }
+        x.define(4, 1);
+        x.append(4, 9, 1);
+        due("10: latest of one", x.series(4, 4), 9);
         due("10: at most 40", x.series(1, 5), 40);
         due("10: at most 40", x.series(1, 6), 40);
         due("10: ever", x.series(1, 3), 43);
@@ -741,6 +778,7 @@ public final class PromiseTest {
         due("19: undefined", x.merged(16, 0, 20, 0), NO);
         due("19: no series", x.merged(257, 0, 20, 0), NO);
         due("19: no series", x.merged(LEAST | 1, 0, 20, 0), NO);
+        due("19: no series", x.merged(256, 0, 20, 0), NO);
         due("19: -1", x.merged(-1, 0, 20, 0), NO);
         due("19: what 2", x.merged(1, 0, 20, 2), NO);
         due("19: what 9", x.merged(1, 0, 20, 9), NO);
@@ -755,6 +793,8 @@ public final class PromiseTest {
         due("19: 0 and 7", x.merged(129, 0, 20, 21), 0);
         due("19: 0 and 7", x.merged(129, 0, 20, 22), 2);
         due("19: 0, 1 and 7", x.merged(131, 0, 20, 0), 1);
+        x.define(0, 0);
+        due("19: a counter as the first", x.merged(3, 0, 20, 0), NO);
     }
 
     private static void dueQuantile(MetricStore x, int set, int q, long numerator, long denominator) {
@@ -1293,6 +1333,61 @@ public final class PromiseTest {
         due("30: none dropped", x.count(2), 0);
         due("30: earliest", x.sample(1, 0, 0), 10);
         due("30: rollup", x.rollup(1, 0, 0, 7), -5);
+        dueUndoneWhole();
+    }
+
+    /** All that a series has, with other samples added over those of the snapshot. */
+    private static void dueUndoneWhole() {
+        MetricStore x = histograms();
+        x.parameter(1, 1);
+        for (int i = 1; i <= 20; i++) {
+            x.observe(0, 5 * i, i);
+            x.observe(1, 15 * i, 20 - i);
+            x.scrape(0, 20 + 7 * i);
+            x.scrape(1, 20 + 9 * i);
+        }
+        long[] before = whole(x);
+        x.image();
+        for (int round = 0; round < 2; round++) {
+            Check.histogram(x, 0, round == 0 ? "1,2,3,4" : "11,21,51");
+            x.define(1, 1);
+            x.parameter(1, 3);
+            for (int i = 1; i <= 50; i++) {
+                x.observe(0, i % 4, 7);
+                x.scrape(0, i * 8);
+                x.append(1, i * 11, i % 5 - 2);
+            }
+            x.undo();
+            long[] after = whole(x);
+            for (int i = 0; i < before.length; i++) {
+                due("30: " + i + " of the whole", after[i], before[i]);
+            }
+        }
+    }
+
+    private static long[] whole(MetricStore x) {
+        long[] answers = new long[2 * (30 + 20 * 17 + 2 * 41 * 11 + 5)];
+        int n = 0;
+        for (int s = 0; s < 2; s++) {
+            for (int what = 0; what < 30; what++) {
+                answers[n++] = x.series(s, what);
+            }
+            for (int i = 0; i < 20; i++) {
+                for (int what = 0; what < 17; what++) {
+                    answers[n++] = x.sample(s, i, what);
+                }
+            }
+            for (int i = 0; i < 41; i++) {
+                for (int what = 0; what < 11; what++) {
+                    answers[n++] = x.rollup(s, 0, i, what);
+                    answers[n++] = x.rollup(s, 1, i, what);
+                }
+            }
+            for (int k = 0; k < 5; k++) {
+                answers[n++] = x.bucket(s, 0, 9999, k);
+            }
+        }
+        return answers;
     }
 
     private static void promise31Count() {
@@ -1333,5 +1428,12 @@ public final class PromiseTest {
         due("31: as they are defined now", x.count(2), 8);
         x.define(6, 1);
         due("31: defined", x.count(0), 4);
+        x.append(6, 1, 1);
+        x.store(0, 6, 0, 0, 1);
+        due("31: a row of one", x.count(5), 2);
+        for (int i = 0; i < 24; i++) {
+            x.append(6, 2 + i, i);
+        }
+        due("31: dropped block by block", x.count(2), 8 + 24);
     }
 }

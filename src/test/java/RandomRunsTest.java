@@ -1,11 +1,11 @@
 import java.util.Random;
 
 /**
- * Runs of 512 random calls, the same ones each time, that are answered by MetricStore and by Naive; at the end of a
- * run, all that can be asked is asked of both.
+ * Runs of random calls, the same ones each time, that are answered by MetricStore and by Naive; at the end of a run,
+ * all that can be asked is asked of both. A run has more than the promised 512 calls: the class does not count them.
  */
 public final class RandomRunsTest {
-    private static final int RUNS = 3000, CALLS = 512;
+    private static final int RUNS = 4000, CALLS = 600;
     private static final int[] WILD = {
         Integer.MIN_VALUE, Integer.MAX_VALUE, -1, 0, 1, 7, 8, 10, 60, 100, 1000000, 999999, 2147483640, -2147483640,
     };
@@ -18,7 +18,6 @@ public final class RandomRunsTest {
     private final int greatestValue;
     private final int usedSeries;
     private final boolean manyHistograms;
-    private String pending = "";
     private int clock = 1;
     private int calls;
 
@@ -39,16 +38,27 @@ public final class RandomRunsTest {
     }
 
     private void play() {
+        for (int s = 0; s < usedSeries; s++) {
+            begin(s);
+        }
         for (calls = 0; calls < CALLS; calls++) {
-            if (!pending.isEmpty()) {
-                feedPending();
-            } else if (random.nextInt(100) < 55) {
+            if (random.nextInt(100) < 55) {
                 change();
             } else {
-                question(random.nextInt(17));
+                question(random.nextInt(18));
             }
         }
         sweep();
+    }
+
+    private void begin(int series) {
+        int kind = random.nextInt(manyHistograms ? 6 : 4);
+        if (kind < 2) {
+            due("define", store.define(series, kind), naive.define(series, kind), series, kind);
+        } else if (kind > 2) {
+            feedText(bounds());
+            due("histogram", store.histogram(series), naive.histogram(series), series);
+        }
     }
 
     private void due(String call, long got, long want, int... arguments) {
@@ -71,6 +81,14 @@ public final class RandomRunsTest {
         return wild(random.nextInt(20) == 0 ? random.nextInt(10) - 1 : random.nextInt(usedSeries));
     }
 
+    private int anyHistogram() {
+        int series = anySeries();
+        for (int i = 0; i < 5 && naive.series(series, 0) != 2; i++) {
+            series = anySeries();
+        }
+        return series;
+    }
+
     private int below(int n) {
         return wild(random.nextInt(n + 1) - (random.nextInt(10) == 0 ? 1 : 0));
     }
@@ -83,30 +101,35 @@ public final class RandomRunsTest {
     private void change() {
         if (random.nextInt(4) == 0) {
             clock += 1 + random.nextInt(stride);
-            clock += random.nextInt(40) == 0 ? random.nextInt(200) : 0;
+            clock += random.nextInt(60) == 0 ? random.nextInt(200) : 0;
             clock = random.nextInt(2000) == 0 ? 999990 : Math.min(clock, 999999);
         }
         int what = random.nextInt(100);
         int series = anySeries();
-        if (what < 6) {
-            int kind = wild(random.nextInt(2));
-            boolean rarely = calls < 60 || random.nextInt(5) == 0;
-            if (rarely) {
-                due("define", store.define(series, kind), naive.define(series, kind), series, kind);
-            }
-        } else if (what < (manyHistograms ? 12 : 8)) {
-            pending = calls < 150 || random.nextInt(5) == 0 ? bounds() : formula(0);
+        if (what < 3) {
+            begin(random.nextInt(usedSeries));
+        } else if (what < 5) {
+            int kind = wild(random.nextInt(3));
+            int rare = wild(8);
+            due("define", store.define(rare, kind), naive.define(rare, kind), rare, kind);
         } else if (what < 12) {
-            pending = formula(0);
+            feedText(formula(0));
+            ask();
+        } else if (what < 13) {
+            feedText(bounds());
+            int rare = random.nextInt(4) == 0 ? series : wild(8);
+            due("histogram", store.histogram(rare), naive.histogram(rare), rare);
         } else if (what < 55) {
             clock += random.nextInt(3) == 0 ? 0 : 1 + random.nextInt(stride);
             int time = wild(clock);
             addSample(series, time);
         } else if (what < 80) {
+            series = anyHistogram();
             int v = wild(random.nextInt(30));
             int n = wild(1 + random.nextInt(20));
             due("observe", store.observe(series, v, n), naive.observe(series, v, n), series, v, n);
         } else if (what < 83) {
+            series = anyHistogram();
             due("restart", store.restart(series), naive.restart(series), series);
         } else if (what < 86) {
             changeParameter();
@@ -116,14 +139,16 @@ public final class RandomRunsTest {
             due("image", store.image(), naive.image());
         } else if (what < 98) {
             due("undo", store.undo(), naive.undo());
+        } else if (random.nextInt(4) == 0) {
+            feedText(random.nextBoolean() ? formula(0) : bounds());
         } else {
-            askOrHistogram();
+            ask();
         }
     }
 
     private void addSample(int series, int time) {
         int v = value();
-        if (store.series(series, 0) == 2 && random.nextInt(20) > 0) {
+        if (naive.series(series, 0) == 2 && random.nextInt(20) > 0) {
             due("scrape", store.scrape(series, time), naive.scrape(series, time), series, time);
         } else {
             due("append", store.append(series, time, v), naive.append(series, time, v), series, time, v);
@@ -157,30 +182,19 @@ public final class RandomRunsTest {
         }
     }
 
-    private void feedPending() {
-        int sign = wild(pending.charAt(0));
-        due("feed", store.feed(sign), naive.feed(sign), sign);
-        pending = pending.substring(1);
-        if (pending.isEmpty()) {
-            askOrHistogram();
+    private void feedText(String text) {
+        for (int i = 0; i < text.length(); i++) {
+            int sign = random.nextInt(400) == 0 ? wild(random.nextInt(128)) : text.charAt(i);
+            due("feed", store.feed(sign), naive.feed(sign), sign);
         }
     }
 
-    private void askOrHistogram() {
-        if (lastWasBounds != (random.nextInt(50) == 0)) {
-            int series = anySeries();
-            due("histogram", store.histogram(series), naive.histogram(series), series);
-        } else {
-            int time = wild(random.nextInt(5) == 0 ? 1 + random.nextInt(clock) : clock);
-            due("ask", store.ask(time), naive.ask(time), time);
-        }
-        calls++;
+    private void ask() {
+        int time = wild(random.nextInt(5) == 0 ? 1 + random.nextInt(clock) : clock);
+        due("ask", store.ask(time), naive.ask(time), time);
     }
-
-    private boolean lastWasBounds;
 
     private String bounds() {
-        lastWasBounds = true;
         StringBuilder text = new StringBuilder();
         int n = 1 + random.nextInt(6);
         int bound = random.nextInt(6);
@@ -192,7 +206,7 @@ public final class RandomRunsTest {
     }
 
     private String spoil(StringBuilder text, String signs) {
-        while (text.length() > 0 && random.nextInt(6) == 0) {
+        while (text.length() > 0 && random.nextInt(4) == 0) {
             int at = random.nextInt(text.length());
             char sign = signs.charAt(random.nextInt(signs.length()));
             switch (random.nextInt(4)) {
@@ -214,11 +228,10 @@ public final class RandomRunsTest {
     }
 
     private String formula(int depth) {
-        lastWasBounds = false;
         StringBuilder text = new StringBuilder();
         int parts = 1 + random.nextInt(3);
         for (int i = 0; i < parts; i++) {
-            text.append(i > 0 ? "+-*/".substring(random.nextInt(4)).substring(0, 1) : "").append(factor(depth));
+            text.append(i > 0 ? "" + "+-*/".charAt(random.nextInt(4)) : "").append(factor(depth));
         }
         return depth > 0 ? text.toString() : spoil(text, "0189+-*/(),rincavgmxsutloe-((");
     }
@@ -228,11 +241,11 @@ public final class RandomRunsTest {
         if (what < 2) {
             return "" + random.nextInt(new int[] {2, 10, 1000, 1000000}[random.nextInt(4)]);
         }
-        if (what < 4 && depth < 7) {
+        if (what < 3 + depth / 3 && depth < 7) {
             return "-" + factor(depth + 1);
         }
-        if (what < 6 && depth < 7) {
-            return "(" + formula(depth + 1).substring(0) + ")";
+        if (what < 4 + depth && depth < 7) {
+            return "(" + formula(depth + 1) + ")";
         }
         String[] names = {"rate", "inc", "avg", "min", "max", "sum", "count", "last"};
         int width = random.nextInt(10) == 0 ? 0 : random.nextInt(random.nextBoolean() ? 999999 : 10 * stride);
@@ -248,12 +261,12 @@ public final class RandomRunsTest {
         int series = anySeries();
         int resolution = wild(random.nextInt(2));
         int step = resolution == 0 ? 10 : 60;
-        int a = wild(random.nextInt(3) == 0 ? -1 : random.nextInt(clock + 1));
+        int a = wild(Math.max(-1, clock - random.nextInt(random.nextInt(3) == 0 ? clock + 1 : 30 * stride)));
         int b = windowEnd(a);
         int a2 = random.nextInt(20) == 0 ? a : Math.floorDiv(a, step) * step;
         int b2 = random.nextInt(20) == 0 ? b : Math.floorDiv(b, step) * step;
         int what = below(10);
-        int set = wild(random.nextInt(5) == 0 ? random.nextInt(256) : histograms() & random.nextInt(256));
+        int set = wild(random.nextInt(9) == 0 ? random.nextInt(256) : someHistograms());
         switch (which) {
             case 0:
                 int property = wild(random.nextInt(28));
@@ -288,6 +301,7 @@ public final class RandomRunsTest {
                 due("rateBits", store.rateBits(series, a, b), naive.rateBits(series, a, b), series, a, b);
                 break;
             case 8:
+                series = anyHistogram();
                 int bucket = below(6);
                 due("bucket", store.bucket(series, a, b, bucket), naive.bucket(series, a, b, bucket), series, a, b, bucket);
                 break;
@@ -297,8 +311,9 @@ public final class RandomRunsTest {
                 due("merged", store.merged(set, a, b, number), naive.merged(set, a, b, number), set, a, b, number);
                 break;
             case 11:
-            case 12:
-                int q = wild(random.nextInt(101));
+            case 17:
+                a = random.nextInt(4) == 0 ? a : Math.max(0, a - 30 * stride);
+                int q = wild(1 + random.nextInt(100));
                 int of = wild(random.nextInt(2));
                 due("quantile", store.quantile(set, a, b, q, of), naive.quantile(set, a, b, q, of), set, a, b, q, of);
                 break;
@@ -308,10 +323,11 @@ public final class RandomRunsTest {
         }
     }
 
-    private int histograms() {
+    private int someHistograms() {
         int set = 0;
+        int chosen = random.nextInt(4) == 0 ? 255 : 1 << random.nextInt(usedSeries) | 1 << random.nextInt(usedSeries);
         for (int i = 0; i < 8; i++) {
-            set |= naive.series(i, 0) == 2 ? 1 << i : 0;
+            set |= naive.series(i, 0) == 2 && (random.nextInt(3) == 0 || (chosen >> i & 1) == 1) ? 1 << i : 0;
         }
         return set;
     }
@@ -320,9 +336,10 @@ public final class RandomRunsTest {
         int i = below(5);
         int k = wild(random.nextInt(20) - 1);
         switch (which) {
-            case 13:
+            case 12:
                 due("answerBits", store.answerBits(), naive.answerBits());
                 break;
+            case 13:
             case 14:
                 due("step", store.step(i, k), naive.step(i, k), i, k);
                 break;
