@@ -278,7 +278,7 @@ public final class MetricStore {
         if (k < 0 || k >= of.bucketCount()) {
             return NO;
         }
-        return of.bucketChange(a, b, k);
+        return of.bucketChange(of.keptUpTo(a), of.keptUpTo(b), k);
     }
 
     public long merged(int set, int a, int b, int what) {
@@ -690,10 +690,12 @@ public final class MetricStore {
         }
 
         private void become(Sample other) {
-            begin(other.time, other.value, other.counts);
+            time = other.time;
+            value = other.value;
             belongs = other.belongs;
             covered = other.covered;
             change = other.change;
+            System.arraycopy(other.counts, 0, counts, 0, BUCKETS);
             System.arraycopy(other.countChanges, 0, countChanges, 0, BUCKETS);
         }
     }
@@ -881,10 +883,9 @@ public final class MetricStore {
             }
         }
 
-        private long bucketChange(int a, int b, int k) {
+        private long bucketChange(int from, int end, int k) {
             long sum = 0;
-            int end = keptUpTo(b);
-            for (int i = keptUpTo(a); i < end; i++) {
+            for (int i = from; i < end && i < kept; i++) {
                 sum += samples[i].countChanges[k];
             }
             return sum;
@@ -978,9 +979,11 @@ public final class MetricStore {
 
         // Every bound of the merge is a bound of each series, so a bucket of a series lies whole in one of the merge.
         private void addChanges(Series one, int a, int b) {
+            int from = one.keptUpTo(a);
+            int end = one.keptUpTo(b);
             int into = 0;
             for (int k = 0; k < one.bucketCount(); k++) {
-                long change = one.bucketChange(a, b, k);
+                long change = one.bucketChange(from, end, k);
                 buckets[into] += change;
                 total += change;
                 if (into < boundCount && k < one.boundCount && one.bounds[k] == bounds[into]) {

@@ -281,6 +281,10 @@ public final class PromiseTest {
         due("6: n most", x.observe(0, 1, MOST), BAD);
         due("6: present stays", x.series(0, 20), 100);
         due("6: no sample", x.series(0, 1), 0);
+        due("6: six bounds", Check.histogram(x, 2, "1,2,3,4,5,6"), 6);
+        for (int v = 0; v < 9; v++) {
+            due("6: of six bounds", x.observe(2, v, 1), Math.min(6, Math.max(0, v - 1)));
+        }
         // 512 calls reach no more than 50688 observations: what lies beyond is free, but tells the limit.
         x = new MetricStore();
         Check.histogram(x, 0, "10");
@@ -633,6 +637,11 @@ public final class PromiseTest {
         due("15: its samples", x.rollup(0, 0, 0, 0), 2);
         due("15: its least", x.rollup(0, 0, 0, 5), -10);
         due("15: its greatest", x.rollup(0, 0, 0, 6), 10);
+        for (int i = 0; i < 40; i++) {
+            due("15: number " + i, x.rollup(0, 0, i, 10), 10 + i);
+            due("15: samples of " + i, x.rollup(0, 0, i, 0), 2);
+            due("15: greatest of " + i, x.rollup(0, 0, i, 6), 10 + i);
+        }
         due("15: latest", x.rollup(0, 0, 39, 10), 49);
         due("15: no more", x.rollup(0, 0, 40, 10), NO);
         x.append(0, 999999, 7);
@@ -795,6 +804,32 @@ public final class PromiseTest {
         due("19: 0, 1 and 7", x.merged(131, 0, 20, 0), 1);
         x.define(0, 0);
         due("19: a counter as the first", x.merged(3, 0, 20, 0), NO);
+        dueSixBounds();
+    }
+
+    private static void dueSixBounds() {
+        MetricStore x = new MetricStore();
+        Check.histogram(x, 0, "1,3,5,7,9,11");
+        Check.histogram(x, 1, "2,4,6,8,10,12");
+        Check.histogram(x, 2, "1,3,5,8,9,11");
+        for (int i = 0; i < 3; i++) {
+            x.scrape(i, 1);
+            for (int v = 1; v < 14; v++) {
+                x.observe(i, v, v);
+            }
+            x.scrape(i, 9);
+        }
+        due("19: six, bounds", x.merged(1, 0, 9, 0), 6);
+        due("19: six, first", x.merged(1, 0, 9, 20), 1);
+        due("19: six, sixth", x.merged(1, 0, 9, 25), 21);
+        due("19: six, last", x.merged(1, 0, 9, 26), 25);
+        due("19: six, no more", x.merged(1, 0, 9, 27), NO);
+        due("19: none in common", x.merged(3, 0, 9, 0), 0);
+        due("19: none in common", x.merged(3, 0, 9, 20), 182);
+        due("19: five in common", x.merged(5, 0, 9, 0), 5);
+        due("19: five in common", x.merged(5, 0, 9, 13), 9);
+        due("19: five in common", x.merged(5, 0, 9, 23), 60);
+        due("19: five in common", x.merged(5, 0, 9, 25), 50);
     }
 
     private static void dueQuantile(MetricStore x, int set, int q, long numerator, long denominator) {
@@ -1346,16 +1381,22 @@ public final class PromiseTest {
             x.scrape(0, 20 + 7 * i);
             x.scrape(1, 20 + 9 * i);
         }
+        x.define(2, 0);
+        for (int i = 1; i <= 45; i++) {
+            x.append(2, 20 * i + i / 9 * 40, i % 3);
+        }
         long[] before = whole(x);
         x.image();
         for (int round = 0; round < 2; round++) {
             Check.histogram(x, 0, round == 0 ? "1,2,3,4" : "11,21,51");
             x.define(1, 1);
+            x.define(2, round);
             x.parameter(1, 3);
             for (int i = 1; i <= 50; i++) {
                 x.observe(0, i % 4, 7);
                 x.scrape(0, i * 8);
                 x.append(1, i * 11, i % 5 - 2);
+                x.append(2, 2000 + i, i);
             }
             x.undo();
             long[] after = whole(x);
@@ -1366,9 +1407,9 @@ public final class PromiseTest {
     }
 
     private static long[] whole(MetricStore x) {
-        long[] answers = new long[2 * (30 + 20 * 17 + 2 * 41 * 11 + 5)];
+        long[] answers = new long[3 * (30 + 20 * 17 + 2 * 41 * 11 + 5)];
         int n = 0;
-        for (int s = 0; s < 2; s++) {
+        for (int s = 0; s < 3; s++) {
             for (int what = 0; what < 30; what++) {
                 answers[n++] = x.series(s, what);
             }
