@@ -976,6 +976,7 @@ public final class PromiseTest {
         dueWrong(x, "lost(1,5)", 1);
         dueWrong(x, "counts(1,5)", 5);
         dueWrong(x, "1/0)", 3);
+        dueWrong(x, "1+".repeat(30), 60);
         due("21: the latest evaluation stays", x.count(4), 1);
         due("21: its value too", x.answerBits(), Float.floatToIntBits(8f));
     }
