@@ -217,11 +217,19 @@ final class DescriptionSentences extends SentenceCase {
         x.parameter(0, 9999);
         due(x.sample(0, 2, 2), 3);
         MetricStore y = histogram("5");
-        y.scrape(0, 1);
-        observe(y, 0, 4, 1);
-        y.scrape(0, 32);
-        due(y.sample(0, 1, 2), 3);
-        due(y.bucket(0, 0, 99, 0), 0);
+        for (int time = 1; time <= 16; time++) {
+            observe(y, 0, 4, 1);
+            y.scrape(0, time);
+        }
+        y.parameter(1, 1);
+        for (int time = 50; time <= 400; time += 50) {
+            observe(y, 0, 4, 1);
+            y.scrape(0, time);
+            due(y.sample(0, time / 50 - 1, 2), 3);
+            due(y.sample(0, time / 50 - 1, 3), 0);
+            due(y.sample(0, time / 50 - 1, 4), 0);
+        }
+        due(y.bucket(0, 0, 999, 0), 0);
     }
 
     private static void coveredTime() {
@@ -300,7 +308,12 @@ final class DescriptionSentences extends SentenceCase {
         y.scrape(0, 5);
         dueMeasures(what -> y.sample(0, 0, what), 5, 3, 0, 0, 0);
         due(y.bucket(0, 0, 5, 0), 0);
-        y.scrape(0, 6);
+        y.parameter(1, 1);
+        for (int time = 6; time <= 13; time++) {
+            observe(y, 0, 3, 1);
+            y.scrape(0, time);
+        }
+        due(y.bucket(0, 12, 13, 0), 3);
         Check.histogram(y, 0, "5");
         observe(y, 0, 3, 1);
         y.scrape(0, 7);

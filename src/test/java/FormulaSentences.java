@@ -177,6 +177,9 @@ final class FormulaSentences extends SentenceCase {
         dueValue(x, "2*-3", 9, -6);
         dueValue(x, "2--3", 9, 5);
         dueValue(x, "-2/-4", 9, 0.5);
+        dueValue(x, "5/1", 9, 5);
+        dueValue(x, "5/-1", 9, -5);
+        dueValue(x, "5*1+5*0+0-1", 9, 4);
         dueValue(x, "-sum(0,9)*2", 9, -14);
         dueWrong("+1", 0);
         dueWrong("*1", 0);
@@ -193,6 +196,8 @@ final class FormulaSentences extends SentenceCase {
         dueWrong("sum(0,9)1", 8);
         dueWrong("sum(0)", 5);
         dueWrong("sum()", 4);
+        dueWrong("sum(,9)", 4);
+        dueWrong("sum,9)", 3);
         dueWrong("sum(0,)", 6);
         dueWrong("sum(0,9,9)", 7);
         dueWrong("sum(0,(9))", 6);
@@ -558,12 +563,53 @@ final class FormulaSentences extends SentenceCase {
         due(x.count(4), 1);
         due(x.answerBits(), bits(11));
         due(x.element(0, 2), 9);
-        x.define(0, GAUGE);
         Check.ask(x, "", 1);
-        Check.histogram(x, 1, "8");
+        Check.histogram(x, 0, "1,2,3,4,5,6");
+        observe(x, 0, 7, 1, 2, 3, 4, 5, 6, 7);
+        x.scrape(0, 3);
+        x.scrape(0, 4);
+        x.define(1, GAUGE);
+        append(x, 1, 20, -1, 21, 7, 70, 3, 300, 4);
         x.undo();
-        due(x.series(0, 11), 10);
+        dueMeasures(k -> x.series(0, 10 + k), 5, 10, NONE);
+        dueMeasures(k -> x.sample(0, 0, 10 + k), 0, 0, 0, NO);
+        dueMeasures(k -> x.sample(0, 1, 10 + k), 1, 1, 0, NO);
+        dueMeasures(k -> x.bucket(0, 1, 2, k), 1, 1, 0, NO);
+        dueMeasures(what -> x.rollup(0, 0, 0, what), 2, 0, 0, 2, 1, 0, 2, 2, 0, 2, 0);
         due(x.series(1, 0), COUNTER);
-        due(x.window(1, 0, 99, 7), 7);
+        dueMeasures(what -> x.window(1, 0, 99, what), 2, 1, 0, 2, 10, 2, 5, 7, 5, 2);
+        dueMeasures(what -> x.rollup(1, 0, 0, what), 1, 0, 0, 0, 0, 5, 5, 5, 5, 5, 0);
+        dueMeasures(what -> x.rollup(1, 0, 1, what), 1, 1, 0, 2, 10, 2, 2, 2, 2, 2, 1);
+        dueMeasures(what -> x.rollup(1, 1, 0, what), 2, 1, 0, 2, 10, 2, 5, 7, 5, 2, 0);
+        MetricStore y = store(COUNTER, 10, 5, 60, 2);
+        y.image();
+        y.define(0, COUNTER);
+        append(y, 0, 100, 5, 101, 6);
+        y.undo();
+        dueMeasures(what -> y.rollup(0, 0, 1, what), 1, 0, 1, 0, 0, 2, 2, 2, 2, 2, 5);
+        dueWholeSnapshot();
+    }
+
+    /** As much as a series can hold: 64 samples, 40 rollups of either resolution, 7 counts. */
+    private static void dueWholeSnapshot() {
+        MetricStore x = histogram("1,2,3,4,5,6");
+        x.parameter(0, 60);
+        for (int i = 1; i <= 64; i++) {
+            observe(x, 0, i, 1, 7);
+            x.scrape(0, 60 * i);
+        }
+        due(x.image(), 64);
+        x.define(0, GAUGE);
+        appendEach(x, 0, 1, 72);
+        due(x.undo(), 64);
+        due(x.series(0, 2), 8);
+        dueEach(40, what -> x.series(0, what), 5, 6);
+        dueMeasures(what -> x.sample(0, 63, what), 3840, 2080 * 2, 1, 128, 60);
+        dueMeasures(k -> x.sample(0, 63, 10 + k), 2080, 0, 0, 0, 0, 0, 2080, NO);
+        dueMeasures(k -> x.bucket(0, 0, 3840, k), 2079, 0, 0, 0, 0, 0, 2079, NO);
+        dueMeasures(what -> x.rollup(0, 1, 39, what), 1, 0, 0, 128, 60, 4160, 4160, 4160, 4160, 4160, 63);
+        due(x.rollup(0, 0, 0, 10), 24 * 6 + 5);
+        due(x.rollup(0, 1, 0, 10), 24);
+        due(x.scrape(0, 3841), 57);
     }
 }

@@ -122,7 +122,12 @@ final class RowSentences extends SentenceCase {
         dueValue(x, "0*-1", 9, -0.0);
         dueValue(x, "1-1", 9, 0.0);
         dueValue(x, "-0+0", 9, 0.0);
+        dueValue(x, "0+-0", 9, 0.0);
+        dueValue(x, "-0+-0", 9, -0.0);
         dueValue(x, "-0-0", 9, -0.0);
+        dueValue(x, "-0--0", 9, 0.0);
+        dueValue(x, "0--0", 9, 0.0);
+        dueValue(x, "-5--5", 9, 0.0);
         dueValue(x, "-1", 9, -1);
         dueValue(x, "1/3", 9, 1 / 3.0);
         dueValue(x, "-2/3", 9, -2 / 3.0);
@@ -595,5 +600,16 @@ final class RowSentences extends SentenceCase {
         append(y, 0, 303, 1, 304, 0, 399, 0);
         due(y.count(8), 1);
         due(y.count(9), 2);
+        MetricStore z = store(COUNTER);
+        z.parameter(1, 1);
+        appendEach(z, 0, 1, 8);
+        append(z, 0, 9, 0);
+        due(z.series(0, 1), 1);
+        due(z.count(8), 1);
+        z.define(0, COUNTER);
+        appendEach(z, 0, 1, 8);
+        append(z, 0, 99, 0);
+        due(z.count(8), 0);
+        due(z.count(9), 1);
     }
 }

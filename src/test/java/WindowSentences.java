@@ -323,6 +323,13 @@ final class WindowSentences extends SentenceCase {
         dueEach(NO, set -> x.merged(set, 0, 2, 0), 8, 9, 11, 16, 17, 32, 33, 128, 129, 255, 256, 257, 1 << 30, -1, LEAST,
             LEAST + 1, MOST);
         due(x.merged(7, 0, 2, 0), 0);
+        MetricStore y = histograms();
+        y.define(0, COUNTER);
+        Check.histogram(y, 7, "5");
+        dueEach(NO, set -> y.merged(set, 0, 2, 0), 1, 3, 5, 7, 129);
+        due(y.merged(128 + 6, 0, 2, 0), 0);
+        y.define(7, GAUGE);
+        dueEach(NO, set -> y.merged(set, 0, 2, 0), 128, 130);
         due(x.merged(1, 3, 2, 0), NO);
         due(x.merged(1, 2, 2, 0), 3);
         due(x.merged(1, MOST, LEAST, 1), NO);
@@ -361,6 +368,9 @@ final class WindowSentences extends SentenceCase {
         due(x.quantile(0, 0, 2, 50, 0), NO);
         dueEach(NO, set -> x.quantile(set, 0, 2, 50, 0), 8, 9, 11, 16, 17, 32, 33, 128, 129, 255, 256, 257, 1 << 30, -1,
             LEAST, LEAST + 1, MOST);
+        MetricStore y = histograms();
+        y.define(0, COUNTER);
+        dueEach(NO, set -> y.quantile(set, 0, 2, 50, 0), 1, 3, 5, 7);
         due(x.quantile(1, 3, 2, 50, 0), NO);
         due(x.quantile(1, MOST, LEAST, 50, 0), NO);
         dueEach(NO, q -> x.quantile(1, 0, 2, q, 0), 0, -1, 101, LEAST, MOST);
