@@ -376,7 +376,7 @@ final class RowSentences extends SentenceCase {
         of("26", "BAD if n is negative or above the length of one of them");
         MetricStore y = rows();
         y.store(3, 0, 1, 7, 1);
-        due(y.copy(0, 3, 1), 0 + 1);
+        due(y.copy(0, 3, 1), 1);
         dueEach(BAD, n -> y.copy(0, 3, n), -1, 2, 3, 4, LEAST, MOST);
         dueEach(BAD, n -> y.copy(3, 0, n), -1, 2, 3, 4, LEAST, MOST);
         dueEach(BAD, n -> y.copy(0, 1, n), -1, 4, 40, LEAST, MOST);
